@@ -860,7 +860,6 @@ public final class ZigzagTablets {
             return hasMarks && code.run(marksFrom, marksTo, this) == 1;
         }
 
-        @Override
         int told(int what) {
             if (what == TOLD_LINE) {
                 return shown.number;
@@ -871,7 +870,6 @@ public final class ZigzagTablets {
             return what >= 0 && what < MOST_COLUMNS ? shown.values[what] : 0;
         }
 
-        @Override
         int asked(int what, int by) {
             return 0;
         }
@@ -1191,9 +1189,9 @@ public final class ZigzagTablets {
         long answer(Tablet tablet, int sort, Code code) {
             this.tablet = tablet;
             long answer = sort <= LAST ? NONE : 0;
-            for (column = 0; column < tablet.count; column++) {
-                int got = code.run(0, code.size, this);
-                answer = joined(sort, answer, got);
+            for (int i = 0; i < tablet.count; i++) {
+                column = i;
+                answer = joined(sort, answer, code.run(0, code.size, this));
             }
             return answer;
         }
@@ -1208,7 +1206,6 @@ public final class ZigzagTablets {
             }
         }
 
-        @Override
         int told(int what) {
             if (tablet == null || column < 0 || column >= tablet.count) {
                 return 0;
@@ -1225,7 +1222,6 @@ public final class ZigzagTablets {
             }
         }
 
-        @Override
         int asked(int what, int by) {
             if (what == ASKED_AHEAD) {
                 boolean can = by >= 0 && by <= MOST_AHEAD && by <= LAST_LINE - now.number;
@@ -1237,8 +1233,8 @@ public final class ZigzagTablets {
 
     /** Reads the tape's text, word by word, up to its first fault. */
     private static final class Reader {
-        private static final String OWN_WORDS = "zig arc ring sum from to by at up down of fast slow is"
-                + " marks slip line prev number sort value drift ahead col or and not all min max ";
+        private static final String OWN_WORDS =
+                "zig arc ring sum from to by at up down of fast slow is marks slip line prev number sort value drift ahead col or and not all min max ";
         private static final int MOST_STATEMENTS = 60;
         private static final int MOST_OPEN = 6;
         private static final int DIGITS = 4;
@@ -1348,7 +1344,26 @@ public final class ZigzagTablets {
             if (sort == NONE) {
                 return unfit();
             }
-            return tablet.count >= MOST_COLUMNS ? refuse(TOO_MANY, first) : columnStatement(sort);
+            if (tablet.count >= MOST_COLUMNS) {
+                return refuse(TOO_MANY, first);
+            }
+            Column column = tablet.columns[tablet.count];
+            column.clear(sort);
+            if (!name(column)) {
+                return false;
+            }
+            switch (sort) {
+                case ZIG: zig(column); break;
+                case ARC: arc(column); break;
+                case RING: ring(column); break;
+                default: takeWord("is"); break;
+            }
+            if (fault != 0 || sort >= RING && !sumOf(column)) {
+                return false;
+            }
+            // Only here: in its own sum a column's name is not yet told.
+            tablet.count++;
+            return true;
         }
 
         private int sortHere() {
@@ -1370,26 +1385,6 @@ public final class ZigzagTablets {
             tablet.marksTo = code.size;
             tablet.hasMarks = true;
             return read;
-        }
-
-        private boolean columnStatement(int sort) {
-            Column column = tablet.columns[tablet.count];
-            column.clear(sort);
-            if (!name(column)) {
-                return false;
-            }
-            switch (sort) {
-                case ZIG: zig(column); break;
-                case ARC: arc(column); break;
-                case RING: ring(column); break;
-                default: takeWord("is"); break;
-            }
-            if (fault == 0 && sort >= RING) {
-                sumOf(column);
-            }
-            // Counted only here: in its own sum a column's name is not yet told.
-            tablet.count++;
-            return fault == 0;
         }
 
         private void zig(Column column) {
@@ -1422,12 +1417,13 @@ public final class ZigzagTablets {
             }
         }
 
-        private void sumOf(Column column) {
+        private boolean sumOf(Column column) {
             column.codeFrom = code.size;
             previousKnown = true;
-            sum(0);
+            boolean read = sum(0);
             previousKnown = false;
             column.codeTo = code.size;
+            return read;
         }
 
         private boolean name(Column column) {
@@ -1618,10 +1614,14 @@ public final class ZigzagTablets {
         // ---- words, numbers and signs
 
         private boolean takeOpen(char sign, int open) {
-            if (isSign(sign) && open >= MOST_OPEN) {
+            if (!isSign(sign)) {
+                return unfit();
+            }
+            if (open >= MOST_OPEN) {
                 return refuse(TOO_DEEP, from);
             }
-            return takeSign(sign);
+            advance();
+            return true;
         }
 
         private boolean takeSign(char sign) {
@@ -1633,7 +1633,11 @@ public final class ZigzagTablets {
         }
 
         private boolean takeWord(String word) {
-            return tryWord(word) || unfit();
+            if (!isWord(word)) {
+                return unfit();
+            }
+            advance();
+            return true;
         }
 
         private boolean tryWord(String word) {
