@@ -466,9 +466,9 @@ public final class ZigzagTablets {
     private void startAgain() {
         clock.begin(now);
         truth.begin(clock, now);
+        ahead.begin(clock, now);
         history.forget();
         piece.forget();
-        settle();
     }
 
     /** Whatever has moved now: what is ahead is told anew, and what is true is known as far as here. */
@@ -1338,7 +1338,14 @@ public final class ZigzagTablets {
                 return fault == 0;
             }
             if (tryWord("marks")) {
-                return tablet.hasMarks ? refuse(TOO_MANY, first) : marksStatement();
+                if (tablet.hasMarks) {
+                    return refuse(TOO_MANY, first);
+                }
+                tablet.hasMarks = true;
+                tablet.marksFrom = code.size;
+                boolean read = test(0);
+                tablet.marksTo = code.size;
+                return read;
             }
             int sort = sortHere();
             if (sort == NONE) {
@@ -1377,14 +1384,6 @@ public final class ZigzagTablets {
                 return RING;
             }
             return tryWord("sum") ? SUM : NONE;
-        }
-
-        private boolean marksStatement() {
-            tablet.marksFrom = code.size;
-            boolean read = test(0);
-            tablet.marksTo = code.size;
-            tablet.hasMarks = true;
-            return read;
         }
 
         private void zig(Column column) {

@@ -20,6 +20,7 @@ public final class LinesTest {
         chance();
         undo();
         lastLines();
+        eightColumns();
         Desk.finish();
     }
 
@@ -449,6 +450,39 @@ public final class LinesTest {
         stays.x.undo();
         stays.x.chance(1);
         Desk.due("the seed stays", stays.x.value(0, 0), 4);
+    }
+
+    private static void eightColumns() {
+        Desk.about = "eight columns";
+        StringBuilder text = new StringBuilder();
+        for (char name = 'a'; name <= 'h'; name++) {
+            text.append("zig ").append(name).append(" from 0 to 9 by 2 at ").append(name - 'a').append(" up;");
+        }
+        text.append("marks h=9 and line=1;slip 100;");
+        Desk d = Desk.with(text.toString());
+        Desk.due("has(0)", d.x.has(0), 8);
+        Desk.due("write(1)", d.x.write(1), 1);
+        for (int c = 0; c < 8; c++) {
+            d.x.put(c, 0);
+        }
+        Desk.due("has(2)", d.x.has(2), 0);
+        Desk.due("has(3)", d.x.has(3), 8);
+        Desk.due("heal(60)", d.x.heal(60), 255);
+        Desk.due("odds(-1)", d.x.odds(-1), 7200);
+        Desk.due("image()", d.x.image(), 35);
+        int[] image = new int[35];
+        for (int k = 0; k < 35; k++) {
+            image[k] = d.x.octet(k);
+        }
+        Desk.due("octet(35)", d.x.octet(35), -1);
+        d.x.put(7, 9);
+        Desk.due("has(2)", d.x.has(2), 1);
+        Desk.due("on()", d.on(image), true);
+        Desk.due("value(7, 0)", d.x.value(7, 0), 0);
+        Desk.due("last", d.ask("last col number=0"), 7);
+        Desk.due("find() in column 8", d.find(0, 8, 0, 0), -1);
+        Desk.due("find() in column 7", d.find(1, 7, 0, 9), 1);
+        Desk.due("fits(0)", d.x.fits(0), 0);
     }
 
     private static void lastLines() {

@@ -29,7 +29,7 @@ public final class PiecesTest {
         Desk.due("find() of three bytes", d.find(0, 0, 0), -1);
         Desk.due("find() 31 lines down", d.find(31, 0, 0, 4), -1);
         Desk.due("find() of a sum", d.find(0, 3, 0, 4), -1);
-        Desk.due("find() of no column", d.find(0, 4, 0, 4), -1);
+        Desk.due("find() of no column", d.find(0, 4, 0, 0), -1);
         Desk.due("find() of no column", d.find(0, 255, 0, 4), -1);
         Desk.due("find() below a zig's bound", d.find(0, 0, 0, 1), -1);
         Desk.due("find() above a zig's bound", d.find(0, 0, 0, 11), -1);

@@ -99,6 +99,8 @@ public final class TextsTest {
         Desk.tabletFault("marks 1;", 1, 7);
         Desk.tabletFault("marks prev=1;", 1, 6);
         Desk.tabletFault("marks 1=prev;", 1, 8);
+        Desk.tabletFault("sum s is prev;marks prev=1;", 1, 20);
+        Desk.tabletFault("ring r of 9 at 0 by prev;marks 1=1 and prev=1;", 1, 39);
         Desk.tabletFault("marks [1=1;", 1, 10);
         Desk.tabletFault("marks 1=1=1;", 1, 9);
         Desk.tabletFault("marks 1=1 or;", 1, 12);
