@@ -88,6 +88,15 @@ final class Desk {
         desk.faultDue(text, kind, place);
     }
 
+    /** The same, with a ^ ahead of the byte (or of the text's end) where the fault is. */
+    static void faultAt(int kind, String marked) {
+        tabletFault(marked.replace("^", ""), kind, marked.indexOf('^'));
+    }
+
+    static void questionFaultAt(int kind, String marked) {
+        questionFault(marked.replace("^", ""), kind, marked.indexOf('^'));
+    }
+
     void faultDue(String text, int kind, int place) {
         due("fault(0) of " + text, x.fault(0), kind);
         due("fault(1) of " + text, x.fault(1), place);
@@ -97,6 +106,24 @@ final class Desk {
         Desk desk = new Desk();
         due("tablet() of " + text, desk.tell(text), statements);
         desk.faultDue(text, 0, -1);
+    }
+
+    /** All of has(0), has(1) and on. */
+    void hasDue(int... values) {
+        for (int what = 0; what < values.length; what++) {
+            due("has(" + what + ")", x.has(what), values[what]);
+        }
+    }
+
+    /** What all columns tell now. */
+    void valuesDue(long... values) {
+        for (int c = 0; c < values.length; c++) {
+            due("value(" + c + ", 0)", x.value(c, 0), values[c]);
+        }
+    }
+
+    void statusDue(int what, int refused) {
+        due("status(" + what + ")", x.status(what), refused);
     }
 
     /** What a column tells from now on, line by line. */
