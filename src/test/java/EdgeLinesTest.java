@@ -191,6 +191,9 @@ public final class EdgeLinesTest {
         Desk.about = "if there are COLUMNS";
         Desk none = Desk.with("slip 100;");
         Desk.due("chance(100)", none.x.chance(100), 0);
+        none.tell("ring r of 999 at 0 by 0;slip 100;");
+        none.x.chance(1);
+        Desk.due("without COLUMNS one draw a line", none.x.value(0, 0), drawn(1, 100 + 3, 9) + 1);
     }
 
     /** What the column tells behind a line in which it slips by this. */

@@ -504,6 +504,14 @@ public final class EdgeQuestionsTest {
             Desk.due("on() of a length of " + length, d.onSealed(Arrays.copyOf(good, length)), false);
             refused++;
         }
+        int[] longer = Arrays.copyOf(good, 20);
+        longer[18] = seal(good);
+        Desk.due("on() of a good one and a byte behind it", d.on(longer), false);
+        refused++;
+        d.lay(Arrays.copyOf(longer, 19));
+        d.x.end(18);
+        Desk.due("on() of a good one that was cut", d.x.on(), false);
+        refused++;
         for (int off : new int[] {1, 250, 128}) {
             int[] bytes = Arrays.copyOf(good, 19);
             bytes[18] = (seal(good) + off) % 256;

@@ -30,6 +30,7 @@ public final class EdgeTextsTest {
         nothingOfTheTabletsAhead();
         tabletIsRefused();
         faultOfTheLatest();
+        longestTexts();
         lettersOfNames();
         columnsAsked();
         Desk.finish();
@@ -435,6 +436,16 @@ public final class EdgeTextsTest {
         Desk.faultAt(1, "sum s is (1^,2);");
         Desk.faultAt(1, "sum s is min ^1;");
         Desk.faultAt(1, "sum s is min(1^);");
+        Desk.faultAt(1, "sum s is min ^1,2);");
+        Desk.faultAt(1, "sum s is min ^line,line);");
+        Desk.faultAt(1, "sum s is min(^,line);");
+        Desk.faultAt(1, "sum s is min(line ^line);");
+        Desk.faultAt(1, "sum s is min(line,^);");
+        Desk.faultAt(1, "sum s is ^)line);");
+        Desk.faultAt(1, "sum s is min(^,2);");
+        Desk.faultAt(1, "sum s is min(1 ^2);");
+        Desk.faultAt(1, "sum s is min(1,^);");
+        Desk.faultAt(1, "sum s is min(1,2^;");
         Desk.faultAt(1, "sum s is max(1,2^,3);");
         Desk.faultAt(1, "sum s is ^[1];");
         Desk.faultAt(1, "sum s is ^;");
@@ -611,6 +622,7 @@ public final class EdgeTextsTest {
         "slip 100;marks all;",
         "zig z from 3 to 9 by 2 at 5 up;zig y from 3 to 9 by 2 at 5 up;zig x from 30 to 90 by 20 at 50 up;slip 40;",
         "arc a of 9 at 8 to 4 fast 3 slow 2;sum b is prev-line;ring c of 7 at 1 by prev+a;marks c>3;",
+        "sum s is 1;",
         "sum s is 5;arc a of 9 at 2 to 4 fast 3 slow 2;sum abcdef is a;",
         "ring r of 9 at 1 by 1;ring q of 8 at 2 by 2;marks not all;",
     };
@@ -703,6 +715,9 @@ public final class EdgeTextsTest {
         d.x.end(-1);
         d.x.write(0);
         d.faultDue("others are not told", 1, 6);
+        for (int what : new int[] {-1, 2, 3, Integer.MIN_VALUE, Integer.MAX_VALUE}) {
+            Desk.due("fault(" + what + ") behind a fault", d.x.fault(what), -1);
+        }
         d.ask("total 1");
         d.faultDue("ask() without", 0, -1);
         d.tell("x");
@@ -712,6 +727,25 @@ public final class EdgeTextsTest {
         for (int what : new int[] {-1, 2, 3, Integer.MIN_VALUE, Integer.MAX_VALUE}) {
             Desk.due("fault(" + what + ")", d.x.fault(what), -1);
         }
+    }
+
+    private static void longestTexts() {
+        Desk.about = "a text may be as long as the tape";
+        String text = "sum s is 1" + "+1".repeat(794) + " ;";
+        Desk d = new Desk();
+        for (int i = 0; i < 6; i++) { // 492 calls: what is kept of a text must not pile up
+            Desk.due("tablet() of 1600 bytes", d.tell(text), 1);
+            d.valuesDue(795);
+        }
+        Desk.with("marks " + "not ".repeat(3) + "[" + "1=1 and ".repeat(190) + "not all];  ").hasDue(0, 0, 1);
+        Desk.with("marks all or " + "all and ".repeat(190) + "all;").hasDue(0, 0, 1);
+        Desk.about = "all that can wait for one another waits";
+        String deep = "1+1*min(9,".repeat(6) + "1" + ")".repeat(6);
+        Desk.with("sum s is " + deep + ";").valuesDue(7);
+        Desk.with("marks not all or all and 6<" + deep + ";").hasDue(0, 0, 1);
+        Desk.with("marks not all or all and 7<" + deep + ";").hasDue(0, 0, 0);
+        Desk.with("marks " + "not all or all and [".repeat(5) + "not all or all and 1<1+(2)" + "]".repeat(5) + ";")
+                .hasDue(0, 0, 1);
     }
 
     private static void lettersOfNames() {
