@@ -204,6 +204,21 @@ public final class EdgeCallsTest {
         only(state, 5, 1);
         state.on(1);
         only(state, 5, 2);
+        Desk.about = "promise 33: what was refused is counted on behind a tablet, an image, an act undone";
+        Desk all = new Desk();
+        all.x.end(-1);
+        all.find(1);
+        all.x.put(0, 0);
+        all.x.write(0);
+        all.x.undo();
+        all.x.seed(-1);
+        all.tell("slip 1;");
+        all.x.write(1);
+        all.x.undo();
+        all.onSealed(0, 0);
+        for (int what = 0; what < 6; what++) {
+            all.statusDue(what, 1);
+        }
         Desk.about = "promise 33: questions that have no answer are not refused";
         Desk asked = new Desk();
         asked.x.later(0, 0);

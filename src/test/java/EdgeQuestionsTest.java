@@ -396,6 +396,7 @@ public final class EdgeQuestionsTest {
             Desk.due("octet(" + k + ")", d.x.octet(k), -1);
         }
         d.tell("");
+        Desk.due("octet(1): the latest is not of this tablet", d.x.octet(1), 1);
         d.x.image();
         Desk.due("octet(3) of a shorter one", d.x.octet(3), -1);
         Desk.due("octet(2) of a shorter one", d.x.octet(2), seal(0, 0));
